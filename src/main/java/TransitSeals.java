@@ -13,6 +13,7 @@ public final class TransitSeals {
     private static final int FIRST_SIGN = -21;
 
     private static final int MOST_SIGNS = 200;
+    private static final int SIGNS_AT_ONCE = 4;
     private static final int MOST_OFFICES = 12;
     private static final int LEAST_OFFICES = 2;
     private static final int MOST_ROADS = 40;
@@ -61,13 +62,13 @@ public final class TransitSeals {
     private static final int STEP_HOURS = 24;
     private static final int STEPS = 3;
     private static final int SPARE_HOURS = 24;
-    private static final int NEVER = Integer.MAX_VALUE;
+    /** Beyond every hour that can be. */
+    private static final int NEVER = 1000000;
 
     /** Stands for "no way" in sums of two ways, so it must stay below half of an int. */
     private static final int FAR = 1000000;
 
-    private final Text text = new Text();
-    private final Reader reader = new Reader(text);
+    private final Reader reader = new Reader();
     private final Row told = new Row();
     private final Route route = new Route();
     private final Loads loads = new Loads();
@@ -84,7 +85,8 @@ public final class TransitSeals {
     // ---- the net
 
     public int sign(int v) {
-        if (text.size() + 4 > MOST_SIGNS) {
+        Text text = reader.text;
+        if (text.size() + SIGNS_AT_ONCE > MOST_SIGNS) {
             return NONE;
         }
         for (int shift = 24; shift >= 0; shift -= 8) {
@@ -94,16 +96,15 @@ public final class TransitSeals {
     }
 
     public boolean end(int n) {
-        if (n < 0 || n > text.size()) {
+        if (n < 0 || n > reader.text.size()) {
             return false;
         }
-        text.cutTo(n);
+        reader.text.cutTo(n);
         return true;
     }
 
     public int net() {
         draft.readFrom(reader);
-        text.cutTo(0);
         if (reader.failed()) {
             return reader.refusal();
         }
@@ -229,14 +230,14 @@ public final class TransitSeals {
 
     public int starts(int trader, int goods, int units) {
         route.readFrom(reader, net);
-        text.cutTo(0);
         if (reader.failed()) {
             return reader.refusal();
         }
         if (!ledger.hasTrader(trader) || !net.hasGoods(goods) || units < 1 || units > MOST_UNITS) {
             return NONE;
         }
-        if (ledger.started >= MOST_MOVEMENTS) {
+        Movement m = ledger.nextToStart();
+        if (m == null) {
             return NOT_SO;
         }
         int duty = units * net.dutyOf(goods);
@@ -245,12 +246,10 @@ public final class TransitSeals {
             return NOR_SO;
         }
         history.remember(ledger);
-        Movement m = ledger.startNext(route);
-        m.trader = trader;
-        m.goods = goods;
-        m.units = units;
-        m.duty = duty;
-        m.share = share;
+        m.load(trader, goods, units, duty, share);
+        m.start(route, ledger.hour);
+        ledger.started++;
+        ledger.write(WROTE_STARTED, m);
         return m.number;
     }
 
@@ -586,7 +585,6 @@ public final class TransitSeals {
 
     public int fits(int trader) {
         loads.readFrom(reader, net);
-        text.cutTo(0);
         if (reader.failed()) {
             return reader.refusal();
         }
@@ -600,7 +598,6 @@ public final class TransitSeals {
 
     public int detour() {
         route.readFrom(reader, net);
-        text.cutTo(0);
         if (reader.failed()) {
             return reader.refusal();
         }
@@ -682,7 +679,7 @@ public final class TransitSeals {
             case 8:
                 return told.size();
             case 9:
-                return text.size();
+                return reader.text.size();
             case 10:
                 return ledger.brokenSeals();
             default:
@@ -729,10 +726,11 @@ public final class TransitSeals {
         if (m.state == ARRIVED) {
             return ledger.hour;
         }
-        if (m.state != ROLLING || isLate(m)) {
+        int arrival = hourOfArrival(m);
+        if (m.state != ROLLING || arrival > m.term) {
             return NEVER;
         }
-        return Math.max(ledger.hour, hourOfArrival(m));
+        return Math.max(ledger.hour, arrival);
     }
 
     private int freedUntil(int trader, int hour) {
@@ -811,6 +809,18 @@ public final class TransitSeals {
         }
     }
 
+    private static void copy(int[] from, int[] to) {
+        for (int i = 0; i < from.length && i < to.length; i++) {
+            to[i] = from[i];
+        }
+    }
+
+    private static void wipe(int[] numbers) {
+        for (int i = 0; i < numbers.length; i++) {
+            numbers[i] = 0;
+        }
+    }
+
     /** The ROW. */
     private static final class Row {
         private final int[] numbers = new int[MOST_OFFICES];
@@ -846,7 +856,7 @@ public final class TransitSeals {
         }
 
         int signAt(int i) {
-            return i >= 0 && i < size ? numberIn(signs, i) : NONE;
+            return i >= 0 && i < size && i < signs.length ? signs[i] : NONE;
         }
 
         void add(int sign) {
@@ -875,13 +885,9 @@ public final class TransitSeals {
 
     /** Reads THE TEXT from its first sign on, and keeps the place of the first sign that can't stand. */
     private static final class Reader {
-        private final Text text;
+        final Text text = new Text();
         private int place;
         private int wrong = NONE;
-
-        Reader(Text text) {
-            this.text = text;
-        }
 
         void begin() {
             place = 0;
@@ -905,7 +911,7 @@ public final class TransitSeals {
         }
 
         boolean takes(char sign) {
-            if (failed() || !sees(sign)) {
+            if (wrong != NONE || text.signAt(place) != sign) {
                 return false;
             }
             place++;
@@ -918,24 +924,21 @@ public final class TransitSeals {
             }
         }
 
-        void needsEnd() {
+        /** Whatever the call answers, THE TEXT is empty then. */
+        void finish() {
             if (!atEnd()) {
                 refuseHere();
             }
+            text.cutTo(0);
         }
 
         void refuseHere() {
-            refuse(place);
+            wrong = wrong == NONE ? place : wrong;
         }
 
+        /** Refuses the last sign taken, a number's last digit. */
         void refuseLast() {
-            refuse(place - 1);
-        }
-
-        private void refuse(int at) {
-            if (!failed()) {
-                wrong = at;
-            }
+            wrong = wrong == NONE ? place - 1 : wrong;
         }
 
         int digit() {
@@ -1023,7 +1026,7 @@ public final class TransitSeals {
             readCountries(reader);
             readRoads(reader);
             readDuties(reader);
-            reader.needsEnd();
+            reader.finish();
             if (!reader.failed()) {
                 measureWays();
                 writeDown();
@@ -1034,12 +1037,8 @@ public final class TransitSeals {
             offices = 0;
             roads = 0;
             goods = 0;
-            for (int i = 0; i < roadHours.length; i++) {
-                roadHours[i] = 0;
-            }
-            for (int o = 0; o < near.length; o++) {
-                near[o] = 0;
-            }
+            wipe(roadHours);
+            wipe(near);
         }
 
         private void readCountries(Reader reader) {
@@ -1258,7 +1257,7 @@ public final class TransitSeals {
             if (stops < 2) {
                 reader.refuseHere();
             }
-            reader.needsEnd();
+            reader.finish();
         }
     }
 
@@ -1283,7 +1282,7 @@ public final class TransitSeals {
                 size++;
                 more = size < MOST_LOADS && reader.takes(',');
             }
-            reader.needsEnd();
+            reader.finish();
         }
 
         void choose(Net net, int level, int free) {
@@ -1394,6 +1393,14 @@ public final class TransitSeals {
             return state == SOUGHT ? term + STEPS * STEP_HOURS : NEVER;
         }
 
+        void load(int itsTrader, int itsGoods, int itsUnits, int itsDuty, int itsShare) {
+            trader = itsTrader;
+            goods = itsGoods;
+            units = itsUnits;
+            duty = itsDuty;
+            share = itsShare;
+        }
+
         void start(Route route, int hour) {
             state = ROLLING;
             stops = route.stops;
@@ -1432,10 +1439,8 @@ public final class TransitSeals {
             stamps = m.stamps;
             debt = m.debt;
             broken = m.broken;
-            for (int k = 0; k < MOST_STOPS; k++) {
-                put(offices, k, numberIn(m.offices, k));
-                put(stampHours, k, numberIn(m.stampHours, k));
-            }
+            copy(m.offices, offices);
+            copy(m.stampHours, stampHours);
         }
     }
 
@@ -1481,11 +1486,9 @@ public final class TransitSeals {
 
         void copyFrom(Book b) {
             total = b.total;
-            for (int i = 0; i < MOST_ENTRIES; i++) {
-                put(kinds, i, numberIn(b.kinds, i));
-                put(movements, i, numberIn(b.movements, i));
-                put(hours, i, numberIn(b.hours, i));
-            }
+            copy(b.kinds, kinds);
+            copy(b.movements, movements);
+            copy(b.hours, hours);
         }
     }
 
@@ -1519,9 +1522,8 @@ public final class TransitSeals {
             hour = other.hour;
             traders = other.traders;
             started = other.started;
-            for (int t = 0; t < MOST_TRADERS; t++) {
-                setTrader(t, other.sumOf(t), other.levelOf(t));
-            }
+            copy(other.sums, sums);
+            copy(other.levels, levels);
             for (int i = 0; i < movements.length && i < other.movements.length; i++) {
                 movements[i].copyFrom(other.movements[i]);
             }
@@ -1627,24 +1629,20 @@ public final class TransitSeals {
 
         /** Null: there is no such movement. */
         Movement find(int movement) {
-            if (movement < 0 || movement >= started || movement >= movements.length) {
-                return null;
-            }
-            return movements[movement];
+            return movement < started ? movementAt(movement) : null;
+        }
+
+        private Movement movementAt(int i) {
+            return i >= 0 && i < movements.length ? movements[i] : null;
         }
 
         void write(int kind, Movement m) {
             book.add(kind, m.number, hour);
         }
 
-        /** The caller has looked that there is room for one more. */
-        Movement startNext(Route route) {
-            int number = Math.min(started, MOST_MOVEMENTS - 1);
-            Movement m = movements[number];
-            m.start(route, hour);
-            started = number + 1;
-            write(WROTE_STARTED, m);
-            return m;
+        /** Null: there is no room for one more. */
+        Movement nextToStart() {
+            return movementAt(started);
         }
 
         /** Lets hours pass; how many movements became sought or owed. */
@@ -1706,18 +1704,26 @@ public final class TransitSeals {
 
         void remember(Ledger ledger) {
             latest = (latest + 1) % MOST_UNDONE;
-            before[latest].copyFrom(ledger);
             depth = Math.min(depth + 1, MOST_UNDONE);
+            Ledger room = latestBefore();
+            if (room != null) {
+                room.copyFrom(ledger);
+            }
         }
 
         boolean takeBack(Ledger ledger) {
-            if (depth == 0) {
+            Ledger last = latestBefore();
+            if (depth == 0 || last == null) {
                 return false;
             }
-            ledger.copyFrom(before[latest]);
+            ledger.copyFrom(last);
             latest = (latest + MOST_UNDONE - 1) % MOST_UNDONE;
             depth--;
             return true;
+        }
+
+        private Ledger latestBefore() {
+            return latest >= 0 && latest < before.length ? before[latest] : null;
         }
 
         void keep(Ledger ledger) {
