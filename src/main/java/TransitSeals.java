@@ -998,8 +998,13 @@ public final class TransitSeals {
             return numberIn(countries, o);
         }
 
+        /** Offices to which a ROAD leads from this one, as bits. */
+        int near(int o) {
+            return numberIn(near, o);
+        }
+
         int roadsAt(int o) {
-            return Integer.bitCount(numberIn(near, o));
+            return Integer.bitCount(near(o));
         }
 
         int dutyOf(int g) {
@@ -1078,7 +1083,7 @@ public final class TransitSeals {
 
         private void join(int a, int b, int hours) {
             put(roadHours, pair(a, b), hours);
-            put(near, a, numberIn(near, a) | 1 << b);
+            put(near, a, near(a) | 1 << b);
         }
 
         private void readDuties(Reader reader) {
@@ -1168,7 +1173,7 @@ public final class TransitSeals {
                 int further = reached;
                 for (int o = 0; o < offices; o++) {
                     if ((reached >> o & 1) != 0) {
-                        further |= numberIn(near, o);
+                        further |= near(o);
                     }
                 }
                 reached = further & ~shut;
@@ -1207,10 +1212,10 @@ public final class TransitSeals {
             if (stops + 2 > MOST_STOPS) {
                 return;
             }
+            int open = net.near(at) & ~passed;
             for (int o = 0; o < net.offices; o++) {
-                int hours = net.roadHours(at, o);
-                if (hours > 0 && (passed >> o & 1) == 0) {
-                    follow(s, o, passed | 1 << o, stops + 1, span + hours);
+                if ((open >> o & 1) != 0) {
+                    follow(s, o, passed | 1 << o, stops + 1, span + net.roadHours(at, o));
                 }
             }
         }
