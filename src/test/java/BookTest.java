@@ -12,6 +12,7 @@ final class BookTest {
         eightDeeds(check);
         whatIsNoDeed(check);
         keepsAndBack(check);
+        backBringsAllOfAMovement(check);
         backIsADeed(check);
         count(check);
         row(check);
@@ -207,6 +208,39 @@ final class BookTest {
         d.due("movement(0, 7)", d.x.movement(0, 7), 2);
         d.net(Desk.NET);
         d.due("back() after net()", d.x.back(), -2);
+    }
+
+    private static void backBringsAllOfAMovement(Check check) {
+        Desk d = Desk.at(check, Desk.NET, 9999, 1, 9999, 2);
+        d.x.hours(2);
+        d.starts("3-2-1", 1, 1, 13);
+        d.x.hours(3);
+        d.stamps(0, 2);
+        d.x.keeps();
+        d.x.undo();
+        d.x.undo();
+        d.x.undo();
+        d.x.hours(50);
+        d.due("another movement 0", d.starts("0-1", 0, 0, 6), 0);
+        d.x.breaks(0);
+        d.stamps(0, 1);
+        d.x.controls(0, 1);
+        d.x.back();
+        long[] all = {1, 1, 13, 0, 325, 33, 48, 2, 2, 0, 0, 0, 3};
+        for (int what = 0; what < all.length; what++) {
+            d.due("movement(0, " + what + ") that was kept", d.x.movement(0, what), all[what]);
+        }
+        d.due("stop(0, 0)", d.x.stop(0, 0), 3, "2");
+        d.due("stop(0, 1)", d.x.stop(0, 1), 2, "5");
+        d.due("stop(0, 2)", d.x.stop(0, 2), 1, "-1");
+        check.due("book(0)", d.book(0), "1 0 5");
+        check.due("book(1)", d.book(1), "0 0 2");
+        d.due("count(7)", d.x.count(7), 2);
+        d.x.undo();
+        long[] another = {0, 0, 6, 4, 60, 30, 86, 2, 1, 1, 100, 0, 2};
+        for (int what = 0; what < another.length; what++) {
+            d.due("movement(0, " + what + ") as it was", d.x.movement(0, what), another[what]);
+        }
     }
 
     private static void backIsADeed(Check check) {

@@ -16,6 +16,7 @@ final class MovementsTest {
         pays(check);
         hours(check);
         hoursAtOnce(check);
+        twentyAtOnce(check);
         theLastHour(check);
         check.close();
     }
@@ -277,6 +278,15 @@ final class MovementsTest {
         d.due("count(0)", d.x.count(0), 0);
         d.due("states(0)", d.x.states(0), 15, "4 200");
         check.due("book(0) after undo()", d.book(0), "1 4 0");
+    }
+
+    private static void twentyAtOnce(Check check) {
+        Desk d = Desk.at(check, Desk.NET, 9999, 0);
+        for (int m = 0; m < 20; m++) {
+            d.starts("0-1", 0, 0, 1);
+        }
+        d.due("hours(106): each is sought, then owed", d.x.hours(106), 20);
+        d.due("states(4)", d.x.states(4), 1048575, "20 200");
     }
 
     private static void theLastHour(Check check) {

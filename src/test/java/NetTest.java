@@ -7,6 +7,7 @@ final class NetTest {
         Check check = new Check("NetTest");
         nets(check);
         aNewNet(check);
+        nothingOfTheOldNetStays(check);
         wrongCountries(check);
         wrongRoads(check);
         wrongDuties(check);
@@ -64,6 +65,23 @@ final class NetTest {
         d.due("inUse(0)", d.x.inUse(0), 0, "1 0 1 0");
     }
 
+    private static void nothingOfTheOldNetStays(Check check) {
+        Desk d = Desk.at(check, Desk.NET, 9999, 0);
+        d.starts("0-1", 0, 1, 5);
+        d.x.breaks(0);
+        d.stamps(0, 1);
+        d.x.controls(0, 0);
+        d.net("00122|0-1:1|10,25");
+        d.due("office(0, 1)", d.x.office(0, 1), 1);
+        d.due("office(2, 1)", d.x.office(2, 1), 0);
+        d.due("gates(0, 2)", d.x.gates(0, 2), -2);
+        d.x.trader(9999, 0);
+        d.due("starts()", d.starts("0-1", 0, 1, 5), 0);
+        d.due("its seal is whole", d.x.movement(0, 9), 0);
+        d.due("its debt", d.x.movement(0, 10), 0);
+        d.due("count(10)", d.x.count(10), 0);
+    }
+
     private static void refused(Desk d, String net, int p) {
         d.due("net() of " + net, d.net(net), -21 - p);
     }
@@ -94,6 +112,10 @@ final class NetTest {
         refused(d, "00|01-1:1", 4);
         refused(d, "00|2-1:1", 3);
         refused(d, "00|10-1:1", 4);
+        refused(d, "00|51-1:1", 4);
+        refused(d, "00|510-1:1", 4);
+        refused(d, "00|0-510:1", 6);
+        refused(d, "00|0-1:1,1-0:1", 11);
         refused(d, "00|0-", 5);
         refused(d, "00|0-:", 5);
         refused(d, "00|0-0:1", 5);
@@ -205,6 +227,8 @@ final class NetTest {
         check.due("written", d.written(), "012345012345|2-3:99,2-10:7,2-11:30,9-10:4|100,20,3");
         d.net("54||999");
         check.due("written", d.written(), "54||999");
+        d.net("00000000|4-5:1,7-6:1");
+        check.due("written", d.written(), "00000000|4-5:1,6-7:1");
         d.net("54|1-0:10");
         check.due("written", d.written(), "54|0-1:10");
         d.due("written(-1)", d.x.written(-1), 9);

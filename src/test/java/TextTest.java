@@ -24,6 +24,8 @@ final class TextTest {
         check.due("new: office(1, 0)", x.office(1, 0), 0);
         check.due("new: office(2, 0)", x.office(2, 0), -1);
         check.due("new: road(0, 1)", x.road(0, 1), -2);
+        check.due("new: way(0, 1)", x.way(0, 1), -2);
+        check.due("new: routes(0, 1)", x.routes(0, 1), -2);
         check.due("new: inUse(0)", x.inUse(0), -1);
         check.due("new: can(0, 0)", x.can(0, 0), -1);
         check.due("new: movement(0, 0)", x.movement(0, 0), -1);

@@ -91,6 +91,9 @@ final class WaysTest {
         d.net("00000|0-1:4,1-2:1,2-3:1");
         d.due("gates(0, 3)", d.x.gates(0, 3), 6, "2");
         d.due("gates(0, 4)", d.x.gates(0, 4), -2, "2");
+        d.net("000|0-1:4,2-0:5");
+        d.due("gates(1, 2) by office 0", d.x.gates(1, 2), 1, "1");
+        d.due("way(1, 2) by office 0", d.x.way(1, 2), 9, "1 0 2");
     }
 
     private static void gatesByLength(Check check) {

@@ -10,6 +10,8 @@ final class WhatCouldBeTest {
         freesLeastBits(check);
         when(check);
         whenLate(check);
+        whenJustInTime(check);
+        freesOfTwenty(check);
         fits(check);
         fitsWhenThereAreTwenty(check);
         fitsEqual(check);
@@ -45,6 +47,9 @@ final class WhatCouldBeTest {
         d.x.trader(50, 1);
         // Half of 99 is 50, rounded up; half of 102 would be 51.
         d.due("can(0, 0) rounded up", d.x.can(0, 0), 33, "50");
+        d.net("00|0-1:1|1");
+        d.x.trader(50, 0);
+        d.due("can(0, 0) of duty 1", d.x.can(0, 0), 50, "50");
     }
 
     private static void frees(Check check) {
@@ -129,6 +134,29 @@ final class WhatCouldBeTest {
         check.due("when() tells no row", d.row(), "");
     }
 
+    private static void whenJustInTime(Check check) {
+        Desk d = Desk.at(check, "0000|0-1:10,1-2:20,2-3:30|5", 500, 0);
+        d.starts("0-1-2-3", 0, 0, 100);
+        d.x.hours(94);
+        d.stamps(0, 1);
+        d.due("late()", d.x.late(), 0);
+        d.due("when(0, 500) at its very term", d.x.when(0, 500), 144);
+        d.due("movement(0, 6)", d.x.movement(0, 6), 144);
+    }
+
+    private static void freesOfTwenty(Check check) {
+        Desk d = Desk.at(check, "00|0-1:1|1", 1000, 0);
+        for (int m = 0; m < 20; m++) {
+            d.starts("0-1", 0, 0, m == 19 ? 620 : 20);
+        }
+        d.due("frees(0, 21)", d.x.frees(0, 21), 1, "524288");
+        d.due("frees(0, 20)", d.x.frees(0, 20), 1, "1");
+        d.due("frees(0, 640)", d.x.frees(0, 640), 2, "524289");
+        d.due("frees(0, 980)", d.x.frees(0, 980), 19, String.valueOf((1 << 18) - 1 | 1 << 19));
+        d.due("frees(0, 1000) of all twenty", d.x.frees(0, 1000), 20, "1048575");
+        d.due("frees(0, 1001)", d.x.frees(0, 1001), -2);
+    }
+
     private static void whenLate(Check check) {
         Desk d = Desk.at(check, "0000|0-1:10,1-2:20,2-3:30|5", 1000, 0);
         d.starts("0-1-2-3", 0, 0, 100);
@@ -194,8 +222,8 @@ final class WhatCouldBeTest {
     private static void wrongLoads(Check check) {
         Desk d = Desk.at(check, Desk.NET, 99999, 0);
         String[] loads = {"x", ":", "2:1", "0", "0x", "00:1", "0:", "0:x", "0:0", "0:01", "0:1,", "0:1;", "0:1,2:1", "0:1000",
-            "0:1,1:2,0:1,1:2,0:1,1:2,0:1,1:2,0:1", "0:1,1:2,0:1,1:2,0:1,1:2,0:1,1:2x"};
-        int[] places = {0, 0, 0, 1, 1, 1, 2, 2, 2, 2, 4, 3, 4, 5, 31, 31};
+            "0:1,1:2,0:1,1:2,0:1,1:2,0:1,1:2,0:1", "0:1,1:2,0:1,1:2,0:1,1:2,0:1,1:2x", "23:1", "10:1"};
+        int[] places = {0, 0, 0, 1, 1, 1, 2, 2, 2, 2, 4, 3, 4, 5, 31, 31, 0, 1};
         for (int i = 0; i < loads.length; i++) {
             d.due("fits() of " + loads[i], d.fits(loads[i], 0), -21 - places[i]);
         }

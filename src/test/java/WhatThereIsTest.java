@@ -93,7 +93,10 @@ final class WhatThereIsTest {
         d.due("borders(1)", d.x.borders(1), 0, "1");
         d.due("borders(2)", d.x.borders(2), 1, "9");
         d.due("borders(3)", d.x.borders(3), 2, "11");
-        d.due("borders(4)", d.x.borders(4), -1, "11");
+        d.starts("1-2-3", 0, 0, 1);
+        d.due("borders(4)", d.x.borders(4), 2, "14");
+        d.x.undo();
+        d.due("borders(4) of none", d.x.borders(4), -1, "14");
         d.due("borders(-1)", d.x.borders(-1), -1);
     }
 
@@ -120,6 +123,11 @@ final class WhatThereIsTest {
         d.due("asked(0)", d.x.asked(0), 12, "2 1");
         d.x.hours(1);
         d.due("asked(0) of one owed", d.x.asked(0), -2, "2 1");
+        d.starts("2-1-0", 0, 0, 7);
+        d.x.hours(48 + 24);
+        d.due("asked(1), seen where it started", d.x.asked(1), 4, "1 24");
+        d.x.hours(24);
+        d.due("asked(1), seen where it started", d.x.asked(1), 7, "2 24");
     }
 
     private static void states(Check check) {
@@ -204,6 +212,14 @@ final class WhatThereIsTest {
         d.due("late()", d.x.late(), 8, "1");
         d.stamps(3, 2);
         d.due("late(): seen nearer to its end", d.x.late(), 0, "0");
+        d.starts("0-1-2-3", 0, 0, 1);
+        d.starts("0-1-2-3", 0, 0, 1);
+        d.starts("0-1", 0, 0, 1);
+        d.starts("0-1-2-3", 0, 0, 1);
+        d.x.hours(100);
+        d.stamps(4, 1);
+        d.stamps(7, 1);
+        d.due("late(): two", d.x.late(), 144, "2");
     }
 
     private static void next(Check check) {
@@ -265,5 +281,7 @@ final class WhatThereIsTest {
         d.due("busiest()", d.x.busiest(), 2, "2");
         d.stamps(1, 2);
         d.due("busiest() when all are at their ends", d.x.busiest(), -2, "2");
+        d.starts("1-0", 0, 0, 5);
+        d.due("busiest() is office 0", d.x.busiest(), 0, "8");
     }
 }
