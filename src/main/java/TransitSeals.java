@@ -32,13 +32,6 @@ public final class TransitSeals {
     private static final int MOST_HOUR = 99999;
     private static final int MOST_HOURS = 999;
 
-    // An office has two digits even where few offices are: 11 is the greatest of all.
-    private static final int OFFICE_DIGITS = 2;
-    private static final int HOURS_DIGITS = 2;
-    private static final int GOODS_DIGITS = 1;
-    private static final int DUTY_DIGITS = 3;
-    private static final int UNITS_DIGITS = 3;
-
     private static final int FULL = 0;
     private static final int HALF = 1;
     private static final int TENTH = 2;
@@ -799,6 +792,14 @@ public final class TransitSeals {
         return parts == 0 ? 0 : (duty + parts - 1) / parts;
     }
 
+    /** No number told by a text has more than three digits. */
+    private static int digitsOf(int number) {
+        if (number < 10) {
+            return 1;
+        }
+        return number < 100 ? 2 : 3;
+    }
+
     private static int numberIn(int[] numbers, int i) {
         return i >= 0 && i < numbers.length ? numbers[i] : 0;
     }
@@ -946,8 +947,11 @@ public final class TransitSeals {
             return sign >= '0' && sign <= '9' ? sign - '0' : NONE;
         }
 
-        /** Takes all digits that can belong to the number before it judges it: a wrong one is refused at its last digit. */
-        int number(int digits, int least, int most) {
+        /**
+         * Takes as many digits as the greatest that may be has, before it judges the number: a wrong one is refused at
+         * its last digit.
+         */
+        int number(int least, int most) {
             if (failed()) {
                 return NONE;
             }
@@ -955,6 +959,7 @@ public final class TransitSeals {
                 refuseHere();
                 return NONE;
             }
+            int digits = digitsOf(most);
             int value = 0;
             for (int i = 0; i < digits && digit() != NONE && (i == 0 || value > 0); i++) {
                 value = value * 10 + digit();
@@ -1048,7 +1053,7 @@ public final class TransitSeals {
 
         private void readCountries(Reader reader) {
             for (int o = 0; o < MOST_OFFICES && reader.digit() >= 0 && reader.digit() < COUNTRIES; o++) {
-                put(countries, o, reader.number(1, 0, COUNTRIES - 1));
+                put(countries, o, reader.number(0, COUNTRIES - 1));
                 offices++;
             }
             if (offices < LEAST_OFFICES) {
@@ -1067,14 +1072,14 @@ public final class TransitSeals {
         }
 
         private void readRoad(Reader reader) {
-            int a = reader.number(OFFICE_DIGITS, 0, offices - 1);
+            int a = reader.number(0, offices - 1);
             reader.needs('-');
-            int b = reader.number(OFFICE_DIGITS, 0, offices - 1);
+            int b = reader.number(0, offices - 1);
             if (a == b || roadHours(a, b) > 0) {
                 reader.refuseLast();
             }
             reader.needs(':');
-            int hours = reader.number(HOURS_DIGITS, 1, MOST_ROAD_HOURS);
+            int hours = reader.number(1, MOST_ROAD_HOURS);
             if (!reader.failed()) {
                 join(a, b, hours);
                 join(b, a, hours);
@@ -1089,7 +1094,7 @@ public final class TransitSeals {
         private void readDuties(Reader reader) {
             boolean more = !reader.failed() && reader.takes('|');
             while (more && goods < MOST_GOODS) {
-                put(duties, goods, reader.number(DUTY_DIGITS, 1, MOST_DUTY));
+                put(duties, goods, reader.number(1, MOST_DUTY));
                 goods++;
                 more = goods < MOST_GOODS && reader.takes(',');
             }
@@ -1248,7 +1253,7 @@ public final class TransitSeals {
             int passed = 0;
             boolean more = true;
             while (more && stops < MOST_STOPS) {
-                int office = reader.number(OFFICE_DIGITS, 0, net.offices - 1);
+                int office = reader.number(0, net.offices - 1);
                 int hours = net.roadHours(officeAt(stops - 1), office);
                 if ((passed >> office & 1) != 0 || stops > 0 && hours == 0) {
                     reader.refuseLast();
@@ -1281,9 +1286,9 @@ public final class TransitSeals {
             size = 0;
             boolean more = !reader.atEnd();
             while (more && size < MOST_LOADS) {
-                put(goods, size, reader.number(GOODS_DIGITS, 0, net.goods - 1));
+                put(goods, size, reader.number(0, net.goods - 1));
                 reader.needs(':');
-                put(units, size, reader.number(UNITS_DIGITS, 1, MOST_UNITS));
+                put(units, size, reader.number(1, MOST_UNITS));
                 size++;
                 more = size < MOST_LOADS && reader.takes(',');
             }

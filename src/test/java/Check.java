@@ -28,6 +28,10 @@ final class Check {
         }
     }
 
+    int wrong() {
+        return wrong;
+    }
+
     void close() {
         System.out.println(name + ": " + looked + " answers looked at, " + wrong + " not as due");
         if (wrong != 0 || looked == 0) {

@@ -109,7 +109,9 @@ final class Model {
         at++;
     }
 
-    private int number(int digits) throws Unreadable {
+    /** No number has more digits than the greatest that may be. */
+    private int number(int greatest) throws Unreadable {
+        int digits = String.valueOf(Math.max(0, greatest)).length();
         int from = at;
         while (at < from + digits && sign() >= '0' && sign() <= '9') {
             at++;
@@ -139,7 +141,7 @@ final class Model {
         at = 0;
         List<Integer> route = new ArrayList<>();
         do {
-            int office = number(2);
+            int office = number(countries.size() - 1);
             mustBe(office < countries.size() && !route.contains(office));
             mustBe(route.isEmpty() || road(route.get(route.size() - 1), office) > 0);
             route.add(office);
@@ -163,7 +165,7 @@ final class Model {
         try {
             at = 0;
             while (sign() >= '0' && sign() <= '5' && newCountries.size() < 12) {
-                newCountries.add(number(1));
+                newCountries.add(number(5));
             }
             if (newCountries.size() < 2) {
                 throw new Unreadable(at);
@@ -175,7 +177,7 @@ final class Model {
             if (at < text.length()) {
                 need('|');
                 do {
-                    int duty = number(3);
+                    int duty = number(999);
                     mustBe(duty >= 1);
                     newDuties.add(duty);
                 } while (newDuties.size() < 6 && goesOn());
@@ -207,16 +209,16 @@ final class Model {
 
     private void readRoads(int offices, List<int[]> newRoads) throws Unreadable {
         do {
-            int a = number(2);
+            int a = number(offices - 1);
             mustBe(a < offices);
             need('-');
-            int b = number(2);
+            int b = number(offices - 1);
             mustBe(b < offices && b != a);
             for (int[] r : newRoads) {
                 mustBe(r[0] != Math.min(a, b) || r[1] != Math.max(a, b));
             }
             need(':');
-            int hours = number(2);
+            int hours = number(99);
             mustBe(hours >= 1);
             newRoads.add(new int[] {Math.min(a, b), Math.max(a, b), hours});
         } while (newRoads.size() < 40 && goesOn());
@@ -801,10 +803,10 @@ final class Model {
             at = 0;
             if (!text.isEmpty()) {
                 do {
-                    int goods = number(1);
+                    int goods = number(duties.size() - 1);
                     mustBe(!no(goods, duties));
                     need(':');
-                    int units = number(3);
+                    int units = number(999);
                     mustBe(units > 0);
                     loads.add(new int[] {goods, units});
                 } while (loads.size() < 8 && goesOn());

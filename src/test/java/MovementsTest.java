@@ -8,6 +8,7 @@ final class MovementsTest {
         starts(check);
         startsRefused(check);
         wrongRoutes(check);
+        routesByDigits(check);
         twentyMovements(check);
         stamps(check);
         breaks(check);
@@ -58,6 +59,32 @@ final class MovementsTest {
         d.due("just the sum", d.starts("0-1", 0, 0, 100), 0);
         d.due("one more", d.starts("0-1", 0, 0, 1), -3);
         d.due("free of a share", d.starts("0-1", 1, 1, 999), 1);
+    }
+
+    private static void routeRefused(Desk d, String route, int place) {
+        d.due("starts() of " + route, d.starts(route, 0, 0, 1), -21 - place);
+        d.due("detour() of " + route, d.detour(route), -21 - place);
+    }
+
+    /** The digits of an office are those of the greatest that there is. */
+    private static void routesByDigits(Check check) {
+        Desk d = new Desk(check);
+        routeRefused(d, "60", 0);
+        routeRefused(d, "10", 1);
+        d.net("00000|0-1:1|1");
+        routeRefused(d, "0-51", 2);
+        routeRefused(d, "0-21", 2);
+        routeRefused(d, "0-11", 3);
+        routeRefused(d, "51", 0);
+        d.net("0000000000|0-1:1,1-9:1|1");
+        routeRefused(d, "1-11", 2);
+        routeRefused(d, "0-21", 2);
+        routeRefused(d, "1-99", 3);
+        d.net("00000000000|0-1:1,1-10:1|1");
+        routeRefused(d, "1-11", 3);
+        routeRefused(d, "0-21", 3);
+        routeRefused(d, "51", 1);
+        d.due("detour() of 0-1-10", d.detour("0-1-10"), 0, "2 28");
     }
 
     private static void wrongRoutes(Check check) {

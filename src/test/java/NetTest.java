@@ -112,9 +112,9 @@ final class NetTest {
         refused(d, "00|01-1:1", 4);
         refused(d, "00|2-1:1", 3);
         refused(d, "00|10-1:1", 4);
-        refused(d, "00|51-1:1", 4);
-        refused(d, "00|510-1:1", 4);
-        refused(d, "00|0-510:1", 6);
+        refused(d, "00|51-1:1", 3);
+        refused(d, "00|510-1:1", 3);
+        refused(d, "00|0-510:1", 5);
         refused(d, "00|0-1:1,1-0:1", 11);
         refused(d, "00|0-", 5);
         refused(d, "00|0-:", 5);
@@ -135,8 +135,23 @@ final class NetTest {
         refused(d, "000000000000|11-11:9", 17);
         refused(d, "000000000000|11-12:9", 17);
         refused(d, "000000000000|111-", 15);
+        refused(d, "000000000000|51-1:1", 14);
+        officesOfOneDigitOrTwo(d);
         d.due("99 hours", d.net("00|0-1:99"), 2);
         d.due("road(0, 1)", d.x.road(0, 1), 99);
+    }
+
+    /** An office has as many digits as the greatest of the net that is told. */
+    private static void officesOfOneDigitOrTwo(Desk d) {
+        refused(d, "0000000000|1-11:1", 13);
+        refused(d, "0000000000|1-10:1", 13);
+        refused(d, "0000000000|0-10:1", 14);
+        refused(d, "00000000000|1-11:1", 15);
+        d.due("11 offices, the greatest 10", d.net("00000000000|1-10:1"), 11);
+        refused(d, "00|60-1:1", 3);
+        d.due("10 offices, the greatest 9", d.net("0000000000|1-9:1"), 10);
+        refused(d, "000000000000|1-12:1", 16);
+        d.due("12 offices, the greatest 11", d.net("000000000000|1-11:1"), 12);
     }
 
     private static void wrongDuties(Check check) {

@@ -6,6 +6,8 @@ import java.util.Random;
 final class RandomRunsTest {
     private static final int RUNS = 3000;
     private static final int MOST_CALLS = 500;
+    /** One fault shows in thousands of runs; the first answers of it are enough. */
+    private static final int MOST_WRONG = 40;
 
     private final Check check;
     private final int run;
@@ -24,7 +26,7 @@ final class RandomRunsTest {
         Check check = new Check("RandomRunsTest");
         int runs = args.length > 0 ? Integer.parseInt(args[0]) : RUNS;
         int first = args.length > 1 ? Integer.parseInt(args[1]) : 0;
-        for (int run = first; run < first + runs; run++) {
+        for (int run = first; run < first + runs && check.wrong() < MOST_WRONG; run++) {
             new RandomRunsTest(check, run).go();
         }
         check.close();
