@@ -1,6 +1,7 @@
 /** Counts what is not as due; each test's main method ends with close(). */
 final class Check {
     private final String name;
+    private String part = "";
     private int looked;
     private int wrong;
 
@@ -8,11 +9,15 @@ final class Check {
         this.name = name;
     }
 
+    /** What the next answers belong to. */
+    void named(String newPart) {
+        part = newPart.isEmpty() ? "" : " [" + newPart + "]";
+    }
+
     void due(String call, long got, long want) {
         looked++;
         if (got != want) {
-            wrong++;
-            System.out.println(name + ": " + call + " answered " + got + ", due is " + want);
+            tell(call, String.valueOf(got), String.valueOf(want));
         }
     }
 
@@ -23,9 +28,17 @@ final class Check {
     void due(String call, String got, String want) {
         looked++;
         if (!got.equals(want)) {
-            wrong++;
-            System.out.println(name + ": " + call + " answered " + got + ", due is " + want);
+            tell(call, got, want);
         }
+    }
+
+    private void tell(String call, String got, String want) {
+        wrong++;
+        System.out.println(name + part + ": " + call + " answered " + got + ", due is " + want);
+    }
+
+    int looked() {
+        return looked;
     }
 
     int wrong() {

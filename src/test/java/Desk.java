@@ -56,6 +56,30 @@ final class Desk {
         return x.detour();
     }
 
+    void dueNet(String text, long want) {
+        check.due("net() of " + text, net(text), want);
+    }
+
+    void dueStarts(String route, int trader, int goods, int units, long want) {
+        String call = "starts(" + trader + ", " + goods + ", " + units + ") of " + route;
+        check.due(call, starts(route, trader, goods, units), want);
+    }
+
+    void dueFits(String loads, int trader, long want) {
+        check.due("fits(" + trader + ") of " + loads, fits(loads, trader), want);
+    }
+
+    void dueDetour(String route, long want) {
+        check.due("detour() of " + route, detour(route), want);
+    }
+
+    /** Entries of the book, the latest first, as book(i) tells them. */
+    void dueBook(String... entries) {
+        for (int i = 0; i < entries.length; i++) {
+            check.due("book(" + i + ")", book(i), entries[i]);
+        }
+    }
+
     /** Stamps of a movement at all these offices. */
     void stamps(int movement, int... offices) {
         for (int office : offices) {
