@@ -525,6 +525,8 @@ final class EdgesOfAnswersTest {
         d.dueNet("00000000000|100-1:1", -21 - 14);
         d.dueNet("0000000000|8-9:1|1", 10);
         d.x.trader(9, 0);
+        // Of ten offices no number has two digits, so that the first 9, told already, is refused.
+        d.dueDetour("9-99", -23);
         d.dueDetour("99-8", -22);
         d.dueDetour("9-88", -24);
         d.dueDetour("9-8", 0);
@@ -536,6 +538,7 @@ final class EdgesOfAnswersTest {
         d.dueFits("55:1", 0, -22);
         d.dueFits("5:1", 0, 1);
         d.dueNet("00000000000|9-10:1|1", 11);
+        d.dueDetour("9-99", -24);
         d.dueDetour("9-100", -25);
         d.dueDetour("9-10", 0);
     }

@@ -20,6 +20,7 @@ final class EdgesOfBookTest {
         e.of("Promise 41", "-2: none can.", EdgesOfBookTest::noneCanBeUndone);
         e.of("Promise 42", "All (the NET aside) is kept, in place of what was: HOUR.", EdgesOfBookTest::keeps);
         e.of("Promise 43", "All that was kept is so again, as a DEED: HOUR.", EdgesOfBookTest::back);
+        e.of("Promise 43", "All that was kept is so again,", EdgesOfBookTest::backOfWhatIsUndone);
         e.of("Promise 43", "-2: nothing is kept (since net()).", EdgesOfBookTest::nothingIsKept);
         e.of("Promise 44", "What 0: HOUR, 1: OFFICES, 2: ROADS, 3: GOODS, 4: TRADERS, 5: MOVEMENTS, 6: DEEDS that can be undone, "
             + "7: entries of THE BOOK, 8: numbers of the ROW, 9: signs of THE TEXT, 10: seals that are broken.", EdgesOfBookTest::count);
@@ -244,6 +245,29 @@ final class EdgesOfBookTest {
         d.due("back() again", d.x.back(), 60);
         d.due("back() of what is so", d.x.back(), 60);
         d.due("count(6)", d.x.count(6), 8);
+    }
+
+    /** Another movement, and other entries, stand where those were that are kept. */
+    private static void backOfWhatIsUndone(Check check) {
+        Desk d = Twins.busy(check);
+        d.x.keeps();
+        d.x.undo();
+        d.x.hours(1);
+        d.dueStarts("4-3", 1, 0, 9, Twins.ROLLING);
+        d.x.breaks(Twins.ROLLING);
+        d.stamps(Twins.ROLLING, 3);
+        d.x.controls(Twins.ROLLING, 1);
+        d.due("back()", d.x.back(), 60);
+        check.due("all that was kept", Twins.ledger(d), Twins.ledger(Twins.busy(check)));
+        d.x.breaks(Twins.ROLLING);
+        d.x.keeps();
+        d.x.undo();
+        d.x.breaks(Twins.SOUGHT);
+        check.due("book(0)", d.book(0), "2 5 60");
+        d.x.back();
+        check.due("book(0)", d.book(0), "2 6 60");
+        d.x.undo();
+        check.due("book(0)", d.book(0), "2 5 60");
     }
 
     private static void nothingIsKept(Check check) {

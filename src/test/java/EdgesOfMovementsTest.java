@@ -406,6 +406,7 @@ final class EdgesOfMovementsTest {
         }
         d.due("count(0)", d.x.count(0), 0);
         d.due("hours(999): each is one, though it became both", d.x.hours(999), 20);
+        d.due("states(4): all are owed", d.x.states(4), 1048575, "20 20");
     }
 
     private static void anotherNumberOfHours(Check check) {

@@ -76,6 +76,8 @@ final class EdgesOfNetTest {
         check.due("office(1, 0)", x.office(1, 0), 0);
         check.due("office(2, 0)", x.office(2, 0), -1);
         check.due("road(0, 1)", x.road(0, 1), -2);
+        check.due("way(0, 1)", x.way(0, 1), -2);
+        check.due("routes(0, 1)", x.routes(0, 1), -2);
         check.due("trader(0, 0): the first one", x.trader(0, 0), 0);
         check.due("can(0, 0): no goods", x.can(0, 0), -1);
     }
@@ -179,14 +181,21 @@ final class EdgesOfNetTest {
         d.due("office(0, 2)", d.x.office(0, 2), 0);
         d.due("can(0, 0)", d.x.can(0, 0), -1);
         check.due("written", d.written(), "00|0-1:7");
-        // The same offices again, so that all that the old net had could be seen.
-        d.net(Desk.NET);
+        // As many offices and movements again, so that all that was there before could be seen.
+        d.net("00000|0-1:7|10");
+        d.due("count(2)", d.x.count(2), 1);
+        d.due("count(3)", d.x.count(3), 1);
+        d.due("office(0, 1)", d.x.office(0, 1), 1);
+        d.due("way(0, 2)", d.x.way(0, 2), -2);
         d.x.trader(9999, 0);
-        d.dueStarts("0-1", 0, 0, 1, 0);
-        d.due("its seal", d.x.movement(0, 9), 0);
-        d.due("its debt", d.x.movement(0, 10), 0);
-        d.due("its stamps", d.x.movement(0, 7), 1);
-        d.due("inUse(0)", d.x.inUse(0), 10, "9999 0 9989 1");
+        for (int m = 0; m < Twins.MOVEMENTS; m++) {
+            d.dueStarts("0-1", 0, 0, 1, m);
+            d.due("its stamps", d.x.movement(m, 7), 1);
+            d.due("its seal", d.x.movement(m, 9), 0);
+            d.due("its debt", d.x.movement(m, 10), 0);
+        }
+        d.due("count(10)", d.x.count(10), 0);
+        d.due("inUse(0)", d.x.inUse(0), 70, "9999 0 9929 127");
     }
 
     private static void countries(Check check) {
@@ -372,6 +381,10 @@ final class EdgesOfNetTest {
         d.due("way(0, 11): a full row", d.x.way(0, 11), 11, "0 1 2 3 4 5 6 7 8 9 10 11");
         d.net("000|0-2:99,0-1:49,1-2:49");
         d.due("way(0, 2): one hour fewer", d.x.way(0, 2), 98, "0 1 2");
+        d.net("000|0-1:4,2-0:5");
+        d.due("way(1, 2) by the first office", d.x.way(1, 2), 9, "1 0 2");
+        d.net("000|0-2:4,2-1:5");
+        d.due("way(1, 0) by the last office", d.x.way(1, 0), 9, "1 2 0");
         d.net("000000000000|0-1:99,1-2:99,2-3:99,3-4:99,4-5:99,5-6:99,6-7:99,7-8:99,8-9:99,9-10:99,10-11:99");
         d.due("way(11, 0): the most hours", d.x.way(11, 0), 1089, "11 10 9 8 7 6 5 4 3 2 1 0");
     }
@@ -476,6 +489,8 @@ final class EdgesOfNetTest {
         check.due("written", d.written(), "012345012345|0-1:1,2-3:99,2-10:7,2-11:30,9-10:4|100,20,3");
         d.net("00||9");
         check.due("written without roads", d.written(), "00||9");
+        d.net("00|1-0:99|1,9,10,99,100,999");
+        check.due("written with the least and the greatest of as many digits", d.written(), "00|0-1:99|1,9,10,99,100,999");
         d.net("00|1-0:10");
         check.due("written without goods", d.written(), "00|0-1:10");
         d.net("05|");

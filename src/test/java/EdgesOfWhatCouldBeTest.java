@@ -135,6 +135,11 @@ final class EdgesOfWhatCouldBeTest {
         d.due("frees(0, 71)", d.x.frees(0, 71), 3, "11");
         d.due("frees(0, 81)", d.x.frees(0, 81), 3, "14");
         d.due("frees(0, 91)", d.x.frees(0, 91), 4, "15");
+        d = Desk.at(check, "00|0-1:1|1", 75, 0);
+        for (int units : new int[] {10, 10, 15, 40}) {
+            d.starts("0-1", 0, 0, units);
+        }
+        d.due("frees(0, 55): 3 and 2, not 3, 1 and 0", d.x.frees(0, 55), 2, "12");
     }
 
     private static void itFits(Check check) {
@@ -275,6 +280,7 @@ final class EdgesOfWhatCouldBeTest {
         Desk d = Desk.at(check, "00|0-1:1|1,2", 100, 0, 10, 2, 0, 3);
         d.dueFits("0:100", 0, 1);
         d.dueFits("0:101", 0, 0);
+        check.due("row: none could start", d.row(), "0 0");
         d.dueFits("0:60,0:40", 0, 3);
         d.dueFits("0:60,0:41", 0, 1);
         d.dueFits("1:50", 0, 1);
