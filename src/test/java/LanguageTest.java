@@ -1,11 +1,17 @@
 import java.io.IOException;
+import java.lang.reflect.Field;
+import java.lang.reflect.Method;
+import java.lang.reflect.Modifier;
 import java.nio.file.Files;
 import java.nio.file.Path;
+import java.util.ArrayList;
 import java.util.List;
+import java.util.Set;
+import java.util.TreeSet;
 import java.util.regex.Matcher;
 import java.util.regex.Pattern;
 
-/** What of ../shared/LANGUAGE.md can be seen from the program's words alone; .ci/run starts it at the project's root. */
+/** What of ../shared/LANGUAGE.md can be seen from the program's words and classes; .ci/run starts it at the project's root. */
 final class LanguageTest {
     private static final List<String> FORBIDDEN = List.of("->", "::", "\\bassert\\b", "\\bsynchronized\\b", "\\bfinally\\b",
         "\\bcatch\\b", "\\bpackage\\b", "\\bprotected\\b", "\\bSystem\\.(?!arraycopy)", "Exact\\b", "\\bMap\\b", "\\bObject\\b",
@@ -27,7 +33,54 @@ final class LanguageTest {
         check.due("static fields that are not final", count(program, "\\bstatic (?!final\\b)[^(;{]*[=;]"), 0);
         check.due("inner classes that are not static", count(program, "(?<!static final |public final )class\\b"), 0);
         check.due("methods are short", longestMethod(program) <= 60, true);
+        check.due("the library", new TreeSet<>(List.of(told(program, "\\b[A-Z][a-z]\\w*\\.(?=\\w+\\()\\w+").split(", "))).toString(),
+            "[Integer.bitCount, Math.max, Math.min]");
+        lookAtClasses(check);
         check.close();
+    }
+
+    private static void lookAtClasses(Check check) {
+        List<Class<?>> classes = new ArrayList<>(List.of(TransitSeals.class.getDeclaredClasses()));
+        for (Class<?> c : classes) {
+            check.due(c + " is static", Modifier.isStatic(c.getModifiers()), true);
+            check.due(c + " has classes inside", c.getDeclaredClasses().length, 0);
+        }
+        classes.add(TransitSeals.class);
+        Set<Class<?>> types = new java.util.HashSet<>(List.of(void.class, int.class, long.class, char.class, boolean.class, int[].class));
+        for (Class<?> c : classes) {
+            types.add(c);
+            types.add(c.arrayType());
+        }
+        for (Class<?> c : classes) {
+            lookAtFields(check, c, types);
+            lookAtMethods(check, c, types);
+        }
+    }
+
+    private static void lookAtFields(Check check, Class<?> c, Set<Class<?>> types) {
+        int fields = 0;
+        for (Field f : c.getDeclaredFields()) {
+            boolean constant = Modifier.isStatic(f.getModifiers());
+            check.due(f + " is final, if it is static", Modifier.isFinal(f.getModifiers()) || !constant, true);
+            check.due(f + " has one of the types", types.contains(f.getType()), true);
+            fields += constant ? 0 : 1;
+        }
+        check.due(c + " has some twenty fields", fields <= 20, true);
+    }
+
+    private static void lookAtMethods(Check check, Class<?> c, Set<Class<?>> types) {
+        Set<String> open = new TreeSet<>();
+        for (Method m : TransitSeals.class.getDeclaredMethods()) {
+            if (Modifier.isPublic(m.getModifiers())) {
+                open.add(m.getName());
+            }
+        }
+        for (Method m : c.getDeclaredMethods()) {
+            check.due(m + " has seven parameters or fewer", m.getParameterCount() <= 7, true);
+            check.due(m + " has types of these", types.contains(m.getReturnType()) && types.containsAll(List.of(m.getParameterTypes())), true);
+            boolean hidden = Modifier.isPrivate(m.getModifiers());
+            check.due(m + " bears no public name, if it is private", !hidden || !open.contains(m.getName()), true);
+        }
     }
 
     private static String withoutComments(String program) {
